@@ -12,10 +12,12 @@ public final class ModelTest {
     private static String text = "";
     private static String probe = "";
     private static RepeatFinder x = new RepeatFinder();
+    private static int used = 0;
     // Built anew after each change of the text, not for each call.
     private static List<String> inOrder = new ArrayList<>();
 
     private static void due(String call, int got, int want) {
+        used++;
         if (got != want) {
             wrong++;
             if (wrong <= 20) {
@@ -48,8 +50,25 @@ public final class ModelTest {
         return found;
     }
 
+    // The document promises nothing after an object's 512th call, so a new
+    // object with the same letters takes over before that.
+    private static void makeRoomFor(int calls) {
+        if (used + calls <= 512) {
+            return;
+        }
+        x = new RepeatFinder();
+        for (char c : text.toCharArray()) {
+            x.type(c - '0');
+        }
+        for (char c : probe.toCharArray()) {
+            x.ask(c - '0');
+        }
+        used = text.length() + probe.length();
+    }
+
     private static void start() {
         x = new RepeatFinder();
+        used = 0;
         probe = "";
         setText("");
     }
@@ -171,6 +190,7 @@ public final class ModelTest {
     }
 
     private static void askAboutText() {
+        makeRoomFor(2 + 26 + text.length() + 2);
         due("words()", x.words(), inOrder.size());
         repeats();
         for (int times = 0; times <= 25; times++) {
@@ -202,6 +222,7 @@ public final class ModelTest {
     private static void shortProbes() {
         for (int length = 0; length <= 3; length++) {
             for (int code = 0; code < 1 << (2 * length); code++) {
+                makeRoomFor(1 + length + 4);
                 wipe();
                 for (int i = 0; i < length; i++) {
                     ask((code >> (2 * i)) & 3);
@@ -219,6 +240,7 @@ public final class ModelTest {
     private static void mixedRun(int letters) {
         start();
         for (int step = 0; step < 90; step++) {
+            makeRoomFor(8);
             int choice = draw(20);
             if (choice < 11) {
                 type(drawLetter(letters));
@@ -244,10 +266,12 @@ public final class ModelTest {
             type(draw(letters));
         }
         for (int k = -1; k <= inOrder.size(); k++) {
+            makeRoomFor(1);
             word(k);
         }
         while (!text.isEmpty()) {
             askAboutText();
+            makeRoomFor(1);
             shift();
         }
         askAboutText();
