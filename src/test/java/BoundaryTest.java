@@ -754,79 +754,79 @@ public final class BoundaryTest {
         changesNothing(ZEROS, "1300", "unique(24)", x -> x.unique(24), BAD);
     }
 
-    private static void whatItIsAndTerms() {
-        fiveHundredTwelveCalls();
-        textRoom();
-        probeRoom();
-        textAndProbeAreTwo();
-        letters();
-        placesFromZero();
-        noEmptyWord();
-        noWordPastTheEnd();
-        overlapping();
-        wordsHaveACountOfOne();
-        orderAtTheFirstDifference();
-        beginningComesBefore();
-        repeatHasACountOfTwo();
-        repeatAndALetterAround();
-    }
+    private static final Runnable[] TESTS = {
+        BoundaryTest::fiveHundredTwelveCalls,
+        BoundaryTest::textRoom,
+        BoundaryTest::probeRoom,
+        BoundaryTest::textAndProbeAreTwo,
+        BoundaryTest::letters,
+        BoundaryTest::placesFromZero,
+        BoundaryTest::noEmptyWord,
+        BoundaryTest::noWordPastTheEnd,
+        BoundaryTest::overlapping,
+        BoundaryTest::wordsHaveACountOfOne,
+        BoundaryTest::orderAtTheFirstDifference,
+        BoundaryTest::beginningComesBefore,
+        BoundaryTest::repeatHasACountOfTwo,
+        BoundaryTest::repeatAndALetterAround,
+        BoundaryTest::newTextIsEmpty,
+        BoundaryTest::newProbeIsEmpty,
+        BoundaryTest::newObjectBesideAnother,
+        BoundaryTest::typeWhenFull,
+        BoundaryTest::typeOfNoLetter,
+        BoundaryTest::typeAnswers,
+        BoundaryTest::typeAtTheEnd,
+        BoundaryTest::shiftTakesTheFirst,
+        BoundaryTest::shiftAnswers,
+        BoundaryTest::shiftOfNone,
+        BoundaryTest::askWhenFull,
+        BoundaryTest::askOfNoLetter,
+        BoundaryTest::askAnswers,
+        BoundaryTest::askAtTheEnd,
+        BoundaryTest::wipeMakesEmpty,
+        BoundaryTest::wipeAnswers,
+        BoundaryTest::countOfAnEmptyProbe,
+        BoundaryTest::countAtItsEnds,
+        BoundaryTest::placeOfAnEmptyProbe,
+        BoundaryTest::placeNowhere,
+        BoundaryTest::smallestPlace,
+        BoundaryTest::numberOfWords,
+        BoundaryTest::longestOutside,
+        BoundaryTest::longestAtTheEnds,
+        BoundaryTest::longestOfNone,
+        BoundaryTest::numberOfRepeats,
+        BoundaryTest::wordsFromZero,
+        BoundaryTest::wordsCode,
+        BoundaryTest::noWordK,
+        BoundaryTest::rankItself,
+        BoundaryTest::rankBefore,
+        BoundaryTest::rankOfAnEmptyProbe,
+        BoundaryTest::commonOfNone,
+        BoundaryTest::commonAtTheEnds,
+        BoundaryTest::uniqueOfNoPlace,
+        BoundaryTest::uniqueOfNone,
+        BoundaryTest::uniqueTestsBadFirst,
+        BoundaryTest::uniqueAtTheEnds,
+        BoundaryTest::fullBeforeBad,
+        BoundaryTest::refusedForNoRoom,
+        BoundaryTest::refusedForNoLetter,
+        BoundaryTest::questionsChangeNothing,
+    };
 
-    private static void promisesOneToFive() {
-        newTextIsEmpty();
-        newProbeIsEmpty();
-        newObjectBesideAnother();
-        typeWhenFull();
-        typeOfNoLetter();
-        typeAnswers();
-        typeAtTheEnd();
-        shiftTakesTheFirst();
-        shiftAnswers();
-        shiftOfNone();
-        askWhenFull();
-        askOfNoLetter();
-        askAnswers();
-        askAtTheEnd();
-        wipeMakesEmpty();
-        wipeAnswers();
-    }
-
-    private static void promisesSixToTen() {
-        countOfAnEmptyProbe();
-        countAtItsEnds();
-        placeOfAnEmptyProbe();
-        placeNowhere();
-        smallestPlace();
-        numberOfWords();
-        longestOutside();
-        longestAtTheEnds();
-        longestOfNone();
-        numberOfRepeats();
-    }
-
-    private static void promisesElevenToFifteen() {
-        wordsFromZero();
-        wordsCode();
-        noWordK();
-        rankItself();
-        rankBefore();
-        rankOfAnEmptyProbe();
-        commonOfNone();
-        commonAtTheEnds();
-        uniqueOfNoPlace();
-        uniqueOfNone();
-        uniqueTestsBadFirst();
-        uniqueAtTheEnds();
-        fullBeforeBad();
-        refusedForNoRoom();
-        refusedForNoLetter();
-        questionsChangeNothing();
+    // A call that throws is wrong too, and must not hide the sentences behind it.
+    private static void run(Runnable test) {
+        try {
+            test.run();
+        } catch (RuntimeException thrown) {
+            wrong++;
+            System.out.println("\"" + sentence + "\": a call threw " + thrown);
+        }
     }
 
     public static void main(String[] args) {
-        whatItIsAndTerms();
-        promisesOneToFive();
-        promisesSixToTen();
-        promisesElevenToFifteen();
+        for (Runnable test : TESTS) {
+            run(test);
+        }
         System.out.println(wrong == 0 ? "all boundary cases hold" : wrong + " answers are not as due");
         if (wrong != 0) {
             System.exit(1);
